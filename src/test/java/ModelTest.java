@@ -130,7 +130,7 @@ public final class ModelTest {
 
     // A PAGE by chance is seldom FOUND, so it is mostly one that some VIEW READS.
     private void findWhatASetReads(String name, Check check) {
-        if (m.count(4) > 8) {
+        if (m.count(4) > 7) {
             return;
         }
         int view = dice.nextInt(6);
@@ -141,6 +141,8 @@ public final class ModelTest {
                 check.due(name + "letter", x.letter(code), m.letter(code));
             }
         }
+        check.due(name + "found(0)", x.found(0), m.found(0));
+        check.due(name + "found(1)", x.found(1), m.found(1));
         int what = upTo(1);
         check.due(name + "found", x.found(what), m.found(what));
     }

@@ -33,6 +33,7 @@ public final class PromisesTest {
         changeLeans();
         span();
         found();
+        foundFewest();
         foundOfTwelve();
         count();
         torn();
@@ -578,6 +579,19 @@ public final class PromisesTest {
         due("16: an empty PAGE", x.found(1), 0b1000);
     }
 
+    private static void foundFewest() {
+        TrackedLetters x = Check.begun("a");
+        Check.insert(x, 0, 1, "b");
+        Check.insert(x, 0, 2, "c");
+        Check.insert(x, 1, 1, "bc");
+        Check.insert(x, 2, 1, "bc");
+        Check.write(x, "abc");
+        due("16: by 0 with 1, by 2, by 3", x.found(0), 3);
+        due("16: fewest ahead of least sum", x.found(1), 0b100);
+        x.decide(2, 2);
+        due("16: fewest, the last of all", x.found(1), 0b1000);
+    }
+
     private static void foundOfTwelve() {
         TrackedLetters x = Check.begun("ab");
         for (int i = 0; i < 6; i++) {
@@ -644,6 +658,52 @@ public final class PromisesTest {
         due("17: a MOVE on from there doesn't tear", x.count(6), 1);
         x.move(2, 1, 1, 0);
         due("17: a third one from one PLACE", x.count(6), 1);
+        tornBothWays();
+        tornByMany();
+        tornNoMore();
+    }
+
+    private static void tornBothWays() {
+        TrackedLetters x = Check.begun("abcd");
+        x.move(0, 1, 1, 4);
+        x.move(1, 1, 1, 4);
+        x.remove(2, 1, 1);
+        x.remove(3, 1, 1);
+        due("17: MOVED twice and DELETED twice is TORN once", x.count(6), 1);
+    }
+
+    private static void tornByMany() {
+        TrackedLetters x = Check.begun("abcd");
+        x.remove(0, 0, 2);
+        x.remove(1, 0, 1);
+        x.remove(2, 1, 1);
+        x.remove(3, 3, 1);
+        due("17: a by 0 and 1, b by 0 and 2, d by 3 alone", x.count(6), 2);
+        TrackedLetters y = Check.begun("abcd");
+        y.move(0, 0, 2, 4);
+        y.move(1, 0, 1, 4);
+        y.move(2, 1, 1, 4);
+        y.move(3, 3, 1, 0);
+        due("17: a by 0 and 1, b by 0 and 2, d by 3 alone", y.count(6), 2);
+    }
+
+    private static void tornNoMore() {
+        TrackedLetters x = Check.begun("abc");
+        x.move(0, 1, 2, 0);
+        x.move(1, 1, 2, 0);
+        due("17: b and c", x.count(6), 2);
+        for (int n = 1; n < 7; n++) {
+            Check.write(x, "abcdef".substring(0, n));
+            x.begin();
+            x.remove(0, 0, 1);
+            Check.insert(x, 1, 0, "z");
+            due("17: begin() leaves nothing TORN, with " + n, x.count(6), 0);
+            x.begin();
+            Check.write(x, "abc");
+            x.begin();
+            x.move(0, 1, 2, 0);
+            x.move(1, 1, 2, 0);
+        }
     }
 
     private static void digest() {
