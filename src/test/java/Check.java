@@ -1,7 +1,20 @@
 /** What the tests of this project share: comparing answers, and writing and reading texts. */
 final class Check {
+    /** One call on an object, so that a refusal can be looked at from both sides. */
+    interface Call {
+        int on(TrackedLetters x);
+    }
+
+    static final String FORTY = "abcdefghijklmnopqrstuvwxyzABCDEFGHIJKLMN";
     private int right = 0;
     private int wrong = 0;
+
+    /** A call that is refused: its answer, and that the other calls answer as they did. */
+    void refused(String sentence, TrackedLetters x, int want, Call call) {
+        long before = x.digest();
+        due(sentence, call.on(x), want);
+        due(sentence + ", digest() behind the refusal", x.digest(), before);
+    }
 
     void due(String call, long got, long want) {
         if (got == want) {
@@ -49,6 +62,40 @@ final class Check {
         TrackedLetters x = new TrackedLetters();
         write(x, signs);
         x.begin();
+        return x;
+    }
+
+    /** 64 LETTERS, 64 PLACES, one CHANGE. */
+    static TrackedLetters ofLetters64() {
+        TrackedLetters x = begun(FORTY);
+        insert(x, 0, 40, FORTY.substring(0, 24));
+        return x;
+    }
+
+    /** 50 LETTERS, 90 PLACES, two CHANGES. */
+    static TrackedLetters ofPlaces90() {
+        TrackedLetters x = begun(FORTY);
+        x.move(0, 0, 40, 40);
+        insert(x, 0, 0, "0123456789");
+        return x;
+    }
+
+    /** 15 LETTERS, 15 PLACES, twelve CHANGES, each by the next AUTHOR. */
+    static TrackedLetters ofChanges12() {
+        TrackedLetters x = begun("abc");
+        for (int i = 0; i < 12; i++) {
+            insert(x, i % 4, 0, "z");
+        }
+        return x;
+    }
+
+    /** 64 LETTERS, 90 PLACES, twelve CHANGES. */
+    static TrackedLetters ofAllFull() {
+        TrackedLetters x = ofLetters64();
+        x.move(0, 0, 26, 64);
+        for (int i = 2; i < 12; i++) {
+            x.remove(i % 4, i, 1);
+        }
         return x;
     }
 

@@ -4,7 +4,7 @@ import static java.lang.Integer.MIN_VALUE;
 /** Each promise by hand: ordinary inputs, the edges that the document names, wrong inputs. */
 public final class PromisesTest {
     private static final int NONE = -1, UNKNOWN = -1001, OUTSIDE = -1002, STATE = -1003, FULL = -1004;
-    private static final String FORTY = "abcdefghijklmnopqrstuvwxyzABCDEFGHIJKLMN";
+    private static final String FORTY = Check.FORTY;
     private static final Check CHECK = new Check();
 
     public static void main(String[] args) {
