@@ -1,7 +1,7 @@
 import static java.lang.Integer.MAX_VALUE;
 import static java.lang.Integer.MIN_VALUE;
 
-/** "A number handed to a call may be any int": each call with all mixtures of numbers about its bounds, in several states. */
+/** "A number handed to a call may be any int": calls with mixtures of numbers about their bounds, in several states. */
 public final class ExtremesTest {
     private static final int SCENES = 5;
     private static final int[] NUMBERS = {
