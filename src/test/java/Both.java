@@ -3,15 +3,20 @@ final class Both {
     final TrackedLetters x = new TrackedLetters();
     final PlainModel m = new PlainModel();
     private final Check check;
+    /** Stands ahead of each call that is printed. */
+    String when = "";
+    /** How many calls each of the two got: the document speaks of 512 at most. */
+    int calls = 0;
 
     Both(Check check) {
         this.check = check;
     }
 
     private int same(String call, int got, int want, int... handed) {
+        calls++;
         // The text is made only where it is printed, since there are many calls.
         if (got != want) {
-            check.due(call + java.util.Arrays.toString(handed), got, want);
+            check.due(when + call + java.util.Arrays.toString(handed), got, want);
         } else {
             check.due(call, got, want);
         }
@@ -26,6 +31,10 @@ final class Both {
 
     int letter(int code) {
         return same("letter", x.letter(code), m.letter(code), code);
+    }
+
+    int blank() {
+        return same("blank", x.blank(), m.blank());
     }
 
     int begin() {
@@ -50,6 +59,10 @@ final class Both {
 
     int decide(int change, int what) {
         return same("decide", x.decide(change, what), m.decide(change, what), change, what);
+    }
+
+    int settle() {
+        return same("settle", x.settle(), m.settle());
     }
 
     void length(int view) {
@@ -78,5 +91,10 @@ final class Both {
 
     void count(int what) {
         same("count", x.count(what), m.count(what), what);
+    }
+
+    void digest() {
+        calls++;
+        check.due(when + "digest", x.digest(), m.digest());
     }
 }

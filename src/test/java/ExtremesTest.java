@@ -3,7 +3,7 @@ import static java.lang.Integer.MIN_VALUE;
 
 /** "A number handed to a call may be any int": calls with mixtures of numbers about their bounds, in several states. */
 public final class ExtremesTest {
-    private static final int SCENES = 5;
+    private static final int SCENES = 5, LIFE = 512;
     private static final int[] NUMBERS = {
         MIN_VALUE, MIN_VALUE + 1, -1001, -1, 0, 1, 2, 3, 4, 5, 6, 7, 8, 9, 11, 12, 13, 39, 40, 41, 63, 64, 65, 89, 90, 91, MAX_VALUE - 1, MAX_VALUE};
     private static final int[] FEW = {MIN_VALUE, -1, 0, 1, 2, 4, 5, 26, 40, 64, 65, MAX_VALUE};
@@ -67,6 +67,15 @@ public final class ExtremesTest {
         b.move(0, 0, 26, 64);
     }
 
+    /** The same object, or, where 512 calls come near, another one in its place. */
+    private static Both alive(String call, int scene, Both b) {
+        if (b.calls < LIFE - 10) {
+            return b;
+        }
+        unchanged(call, scene, b);
+        return scene(scene);
+    }
+
     private static void unchanged(String call, int scene, Both b) {
         CHECK.due(call + " of scene " + scene + " changed what is told", b.x.digest(), scene(scene).x.digest());
     }
@@ -88,6 +97,7 @@ public final class ExtremesTest {
         Both b = scene(scene);
         for (int i : NUMBERS) {
             for (int what : NUMBERS) {
+                b = alive("place, change or span", scene, b);
                 b.place(i, what);
                 b.change(i, what);
                 if (scene < 3 || what < 0 || what > 3 || i < 12 && what > 0) {
@@ -103,6 +113,7 @@ public final class ExtremesTest {
         for (int view : NUMBERS) {
             for (int place : FEW) {
                 for (int what : NUMBERS) {
+                    b = alive("read", scene, b);
                     b.read(view, place, what);
                 }
             }
@@ -119,9 +130,7 @@ public final class ExtremesTest {
         }
         for (int author : NUMBERS) {
             for (int at : NUMBERS) {
-                if (b.insert(author, at) >= 0) {
-                    b = scene(scene);
-                }
+                b = b.insert(author, at) >= 0 ? scene(scene) : alive("insert", scene, b);
             }
         }
         unchanged("letter or insert", scene, b);
@@ -132,9 +141,7 @@ public final class ExtremesTest {
         for (int author : AUTHORS) {
             for (int from : NUMBERS) {
                 for (int n : NUMBERS) {
-                    if (b.remove(author, from, n) >= 0) {
-                        b = scene(scene);
-                    }
+                    b = b.remove(author, from, n) >= 0 ? scene(scene) : alive("remove", scene, b);
                 }
             }
         }
@@ -147,9 +154,7 @@ public final class ExtremesTest {
             for (int from : FEW) {
                 for (int n : FEW) {
                     for (int to : FEW) {
-                        if (b.move(author, from, n, to) >= 0) {
-                            b = scene(scene);
-                        }
+                        b = b.move(author, from, n, to) >= 0 ? scene(scene) : alive("move", scene, b);
                     }
                 }
             }
@@ -164,9 +169,7 @@ public final class ExtremesTest {
                 b = scene(scene);
             }
             for (int what : NUMBERS) {
-                if (b.decide(change, what) >= 0) {
-                    b = scene(scene);
-                }
+                b = b.decide(change, what) >= 0 ? scene(scene) : alive("decide", scene, b);
             }
         }
         unchanged("show or decide", scene, b);

@@ -24,6 +24,7 @@ public final class FaceTest {
     public static void main(String[] args) throws IOException {
         membersAreTheFace();
         classesInsideAreStatic();
+        classesAreSmall();
         sourceKeepsTheRules(Files.readString(Path.of(args.length > 0 ? args[0] : "src/main/java/TrackedLetters.java")));
         CHECK.end("FaceTest");
     }
@@ -90,7 +91,40 @@ public final class FaceTest {
         }
     }
 
+    private static void classesAreSmall() {
+        Class<?>[] all = withClassesInside(TrackedLetters.class);
+        CHECK.due("more than twelve classes", all.length > 12 ? 1 : 0, 0);
+        for (Class<?> c : all) {
+            int fields = 0;
+            for (Field f : c.getDeclaredFields()) {
+                if (!Modifier.isStatic(f.getModifiers())) {
+                    fields++;
+                } else {
+                    boolean constant = f.getType() == int.class && Modifier.isFinal(f.getModifiers());
+                    CHECK.due(c.getName() + "." + f.getName() + " is static and no constant", constant ? 0 : 1, 0);
+                }
+            }
+            CHECK.due(c.getName() + " has more than twenty fields", fields > 20 ? 1 : 0, 0);
+        }
+    }
+
+    // A method ends at the first closing brace that stands as far in as its head.
+    private static void methodsAreShort(String source) {
+        String[] rows = source.split("\n");
+        for (int i = 0; i < rows.length; i++) {
+            if (rows[i].matches("( {4}| {8})[\\w ]+[\\w\\[\\]]* \\w+\\([^()]*\\) \\{")) {
+                String end = rows[i].replaceAll("\\S.*", "") + "}";
+                int last = i;
+                while (last < rows.length && !rows[last].equals(end)) {
+                    last++;
+                }
+                CHECK.due("more than sixty lines: " + rows[i].trim(), last - i + 1 > 60 ? 1 : 0, 0);
+            }
+        }
+    }
+
     private static void sourceKeepsTheRules(String source) {
+        methodsAreShort(source);
         String code = source.replaceAll("(?s)/\\*.*?\\*/", "").replaceAll("//[^\n]*", "");
         for (String word : BARRED) {
             CHECK.due("the source has '" + word + "'", code.contains(word) ? 1 : 0, 0);

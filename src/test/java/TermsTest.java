@@ -36,6 +36,7 @@ public final class TermsTest {
         leansOnInserts();
         leansOnTheMoveThatLeads();
         leansOfTwelve();
+        leansWhateverTheyAre();
         tornByMoves();
         tornByDeletes();
         tornThoughNotThere();
@@ -620,6 +621,27 @@ public final class TermsTest {
         }
         due(s + "11 on 10", y.change(11, 6), 1024);
         due(s + "1 on 0", y.change(1, 6), 1);
+    }
+
+    private static void leansWhateverTheyAre() {
+        String s = "T, LEANS, of what both are nothing is said: ";
+        int[] leans = {0, 0b1, 0b11, 0b1};
+        // Each as OPEN, TAKEN and REFUSED, with all that the others may be; and SHOWN or not.
+        for (int states = 0; states < 81 * 16; states++) {
+            TrackedLetters x = Check.begun("ab");
+            Check.insert(x, 0, 1, "z");
+            x.move(0, 1, 2, 0);
+            x.move(0, 0, 1, 3);
+            x.remove(0, 1, 2);
+            int left = states / 16;
+            for (int c = 0; c < 4; c++) {
+                x.show(c, (states >> c & 1) != 0);
+                x.decide(c, left % 3);
+                left /= 3;
+            }
+            int[] got = {x.change(0, 6), x.change(1, 6), x.change(2, 6), x.change(3, 6)};
+            CHECK.row(s + "states " + states, got, leans);
+        }
     }
 
     private static void tornByMoves() {
